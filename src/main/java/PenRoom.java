@@ -926,23 +926,18 @@ public final class PenRoom {
             at = 0;
             advance();
             for (int line = 0; line < MAX_TAPE && token != END; line++) {
-                if (!readLine(book)) {
+                boolean good = token == LIMIT
+                    ? readLimit(book)
+                    : readKind(book) && (token != WHEN || readEither(book, 0)) && readSteps(book);
+                if (!good) {
                     return false;
                 }
             }
             return true;
         }
 
-        private boolean readLine(RuleBook book) {
-            switch (token) {
-                case RULE: return readRule(book);
-                case LIMIT: return readLimit(book);
-                default: return wrongToken();
-            }
-        }
-
-        private boolean readRule(RuleBook book) {
-            if (!book.hasRoomForRule()) {
+        private boolean readKind(RuleBook book) {
+            if (token != RULE || !book.hasRoomForRule()) {
                 return wrongToken();
             }
             advance();
@@ -951,40 +946,30 @@ public final class PenRoom {
             }
             book.addRule(token - FIRST_KIND);
             advance();
-            if (token == WHEN) {
-                advance();
-                if (!readEither(book, 0)) {
-                    return false;
-                }
-            }
-            return take(':') && readSteps(book) && take(';');
-        }
-
-        /** What stands behind the last step that may be is left to the caller, who can't take it. */
-        private boolean readSteps(RuleBook book) {
-            for (int step = 0; step < MAX_STEPS; step++) {
-                if (!readNeeds(book, step)) {
-                    return false;
-                }
-                if (token != THEN || step == MAX_STEPS - 1) {
-                    return true;
-                }
-                advance();
-            }
             return true;
         }
 
-        private boolean readNeeds(RuleBook book, int step) {
-            for (int need = 0; need < MAX_NEEDS; need++) {
+        /** It stands at the sign or word in front of each need: a colon, a then or an and. */
+        private boolean readSteps(RuleBook book) {
+            if (token != ':') {
+                return wrongToken();
+            }
+            int step = 0;
+            int needs = 0;
+            for (int need = 0; need < MAX_STEPS * MAX_NEEDS; need++) {
+                advance();
                 if (!readNeed(book, step)) {
                     return false;
                 }
-                if (token != AND || need == MAX_NEEDS - 1) {
-                    return true;
+                needs++;
+                if (token == THEN && step < MAX_STEPS - 1) {
+                    step++;
+                    needs = 0;
+                } else if (token != AND || needs >= MAX_NEEDS) {
+                    return take(';');
                 }
-                advance();
             }
-            return true;
+            return wrongToken();
         }
 
         private boolean readNeed(RuleBook book, int step) {
@@ -1004,32 +989,26 @@ public final class PenRoom {
             return true;
         }
 
+        /** It stands at the sign or word in front of each one: a when, a bracket, an or or an and. */
         private boolean readEither(RuleBook book, int depth) {
-            if (!readBoth(book, depth)) {
-                return false;
-            }
-            for (int more = 0; more < MAX_TAPE && token == OR; more++) {
-                advance();
-                if (!readBoth(book, depth)) {
-                    return false;
+            for (int ors = 0; ors < MAX_TAPE; ors++) {
+                for (int ands = 0; ands == 0 || (ands < MAX_TAPE && token == AND); ands++) {
+                    advance();
+                    if (!readOne(book, depth)) {
+                        return false;
+                    }
+                    if (ands > 0) {
+                        book.addOperation(RuleBook.AND, 0);
+                    }
                 }
-                book.addOperation(RuleBook.OR, 0);
-            }
-            return true;
-        }
-
-        private boolean readBoth(RuleBook book, int depth) {
-            if (!readOne(book, depth)) {
-                return false;
-            }
-            for (int more = 0; more < MAX_TAPE && token == AND; more++) {
-                advance();
-                if (!readOne(book, depth)) {
-                    return false;
+                if (ors > 0) {
+                    book.addOperation(RuleBook.OR, 0);
                 }
-                book.addOperation(RuleBook.AND, 0);
+                if (token != OR) {
+                    return true;
+                }
             }
-            return true;
+            return wrongToken();
         }
 
         /** The depth is how many others it is within; an e has its first token here, too. */
@@ -1046,29 +1025,22 @@ public final class PenRoom {
                     book.addOperation(RuleBook.NOT, 0);
                     return true;
                 case '(':
-                    advance();
                     return readEither(book, depth + 1) && take(')');
-                default:
-                    return readTest(book);
-            }
-        }
-
-        private boolean readTest(RuleBook book) {
-            if (!book.hasRoomForTest()) {
-                return wrongToken();
-            }
-            switch (token) {
-                case SUM: return readSumTest(book);
-                case PLACE: return readPlaceTest(book);
+                case SUM:
+                    return readSumTest(book);
+                case PLACE:
+                    return readPlaceTest(book);
                 case URGENT:
-                    book.addTest(RuleBook.IS_URGENT, 0);
-                    advance();
-                    return true;
-                default: return wrongToken();
+                    return readUrgentTest(book);
+                default:
+                    return wrongToken();
             }
         }
 
         private boolean readSumTest(RuleBook book) {
+            if (!book.hasRoomForTest()) {
+                return wrongToken();
+            }
             advance();
             if (token != '<' && token != '>') {
                 return wrongToken();
@@ -1084,10 +1056,14 @@ public final class PenRoom {
         }
 
         private boolean readPlaceTest(RuleBook book) {
-            advance();
-            if (!take('=')) {
-                return false;
+            if (!book.hasRoomForTest()) {
+                return wrongToken();
             }
+            advance();
+            if (token != '=') {
+                return wrongToken();
+            }
+            advance();
             if (token != NUMBER) {
                 return wrongToken();
             }
@@ -1095,6 +1071,15 @@ public final class PenRoom {
                 return wrong(WRONG_NUMBER);
             }
             book.addTest(RuleBook.PLACE_IS, number);
+            advance();
+            return true;
+        }
+
+        private boolean readUrgentTest(RuleBook book) {
+            if (!book.hasRoomForTest()) {
+                return wrongToken();
+            }
+            book.addTest(RuleBook.IS_URGENT, 0);
             advance();
             return true;
         }
@@ -1170,7 +1155,8 @@ public final class PenRoom {
             if (at >= length) {
                 token = END;
             } else if (isLetter(at)) {
-                readWord();
+                skipLetters();
+                token = at - start > MAX_WORD ? BAD : wordToken();
             } else if (isDigit(at)) {
                 readNumber();
             } else {
@@ -1179,16 +1165,10 @@ public final class PenRoom {
             }
         }
 
-        private void readWord() {
+        private void skipLetters() {
             while (at < length && isLetter(at)) {
                 at++;
             }
-            if (at - start > MAX_WORD) {
-                token = BAD;
-                return;
-            }
-            int word = placeInWords();
-            token = word == NONE ? OTHER_WORD : FIRST_WORD + word;
         }
 
         private void readNumber() {
@@ -1200,31 +1180,24 @@ public final class PenRoom {
             token = at - start > MAX_DIGITS || isLetter(at) ? BAD : NUMBER;
         }
 
-        private int placeInWords() {
-            int word = 0;
-            int from = 0;
-            for (int i = 0; i < WORDS.length(); i++) {
-                if (WORDS.charAt(i) == ' ') {
-                    if (isToken(from, i)) {
-                        return word;
-                    }
+        private int wordToken() {
+            int word = FIRST_WORD;
+            int i = start;
+            boolean same = true;
+            for (int k = 0; k < WORDS.length(); k++) {
+                char c = WORDS.charAt(k);
+                if (c != ' ') {
+                    same = same && i < at && tape[i] == c;
+                    i++;
+                } else if (same && i == at) {
+                    return word;
+                } else {
                     word++;
-                    from = i + 1;
+                    i = start;
+                    same = true;
                 }
             }
-            return NONE;
-        }
-
-        private boolean isToken(int from, int to) {
-            if (to - from != at - start) {
-                return false;
-            }
-            for (int i = from; i < to; i++) {
-                if (WORDS.charAt(i) != tape[start + i - from]) {
-                    return false;
-                }
-            }
-            return true;
+            return OTHER_WORD;
         }
 
         private boolean isLetter(int where) {

@@ -12,6 +12,8 @@ public final class PenRoomAgainstModel {
   private static final String[] ROLES = {"clerk", "head", "chief", "money", "law", "board", "guard", "owner"};
 
   static final class Fault extends RuntimeException {
+    private static final long serialVersionUID = 1L;
+
     final int number;
     final int place;
 
@@ -528,15 +530,18 @@ public final class PenRoomAgainstModel {
       if (!canBe(kind, 0, maker, place) || people < 0 || people >= 1 << roles.size()) return -1;
       Paper p = fresh(kind, 0, maker, place, urgent);
       for (int sum = 1000000; sum >= 0; sum--) {
-        p.sum = sum;
-        begin(p);
-        if (p.state != 0) continue;
-        tries = 0;
-        int got = seek(p, 0, people);
+        int got = wayWith(p, sum, people);
         if (got == 1) return sum;
         if (got == -3) return -3;
       }
       return -2;
+    }
+
+    int wayWith(Paper p, int sum, int people) {
+      p.sum = sum;
+      begin(p);
+      tries = 0;
+      return p.state == 0 ? seek(p, 0, people) : -2;
     }
 
     int about(int what) {
@@ -601,6 +606,12 @@ public final class PenRoomAgainstModel {
       }
     }
 
+    /** Many hands for a crowd, of roles that few have: long searches, some of them too long. */
+    String crowdRule() {
+      return "rule " + KINDS[up(2)] + (odds(40) ? " when sum > " + number() : "") + " : " + (2 + up(2)) + " " + ROLES[up(3)] + " and "
+          + (2 + up(2)) + " " + ROLES[up(3)] + (odds(50) ? " then 1 " + ROLES[3 + up(5)] : "") + " then 1 " + ROLES[3 + up(5)] + ";";
+    }
+
     String need() { return (odds(2) ? up(6) : 1 + up(heavy ? 3 : 2)) + " " + ROLES[odds(80) ? up(3) : up(8)]; }
 
     String line() {
@@ -610,6 +621,7 @@ public final class PenRoomAgainstModel {
         if (odds(50)) s += " month " + number();
         return s + ";";
       }
+      if (heavy && odds(60)) return crowdRule();
       StringBuilder s = new StringBuilder("rule ").append(KINDS[up(odds(70) ? 2 : 4)]);
       if (odds(60)) s.append(" when ").append(either(odds(10) ? 9 : 2));
       s.append(": ").append(need());
@@ -647,11 +659,14 @@ public final class PenRoomAgainstModel {
     void all() {
       load(text());
       for (int i = 0; i < people; i++) {
-        int roles = up(256) & up(256) | 1 << up(3);
+        int roles = heavy ? up(8) | up(256) & up(256) & up(256) : up(256) & up(256) | 1 << up(3);
         same("person", x.person(roles), m.person(roles));
       }
       int days = heavy ? 30 : 40;
-      for (int i = 0; i < 250; i++) call(up(100), days);
+      for (int i = 0; i < 250; i++) {
+        int which = up(100);
+        if (!heavy || which < 2 || which >= 8 || odds(25)) call(which, days);
+      }
     }
 
     void call(int which, int days) {
@@ -743,12 +758,29 @@ public final class PenRoomAgainstModel {
     }
 
     void greatest(int a) {
-      if (heavy) return;
       int kind = odds(90) ? up(2) : off(0, 3);
       int place = odds(95) ? up(3) : off(0, 7);
       int set = odds(60) ? (1 << m.roles.size()) - 1 : odds(95) ? up(1 << m.roles.size()) : off(0, (1 << m.roles.size()) - 1);
       boolean urgent = odds(40);
-      same("greatest", x.greatest(kind, place, urgent, a, set), m.greatest(kind, place, urgent, a, set));
+      int got = x.greatest(kind, place, urgent, a, set);
+      if (heavy) sample(got, kind, place, urgent, a, set);
+      else same("greatest", got, m.greatest(kind, place, urgent, a, set));
+    }
+
+    /** A crowd is too slow for the model to look at each sum, so it looks at those where most can change. */
+    void sample(int got, int kind, int place, boolean urgent, int maker, int set) {
+      if (!m.canBe(kind, 0, maker, place) || set < 0 || set >= 1 << m.roles.size()) {
+        same("greatest", got, -1);
+        return;
+      }
+      Paper p = m.fresh(kind, 0, maker, place, urgent);
+      if (got >= 0) same("way at the greatest", m.wayWith(p, got, set), 1);
+      int first = m.wayWith(p, 1000000, set);
+      if (first != -2) same("greatest", got, first == 1 ? 1000000 : -3);
+      for (int i = 0; i < 6 && got != -3; i++) {
+        int sum = i == 0 ? Math.max(got, -1) + 1 : someSum();
+        if (sum > got && m.isSum(sum)) same("no way above the greatest, at " + sum, m.wayWith(p, sum, set), -2);
+      }
     }
 
     void stand(int n) {
@@ -761,7 +793,7 @@ public final class PenRoomAgainstModel {
 
   /** Two numbers may be told: how many runs, and the first seed. */
   public static void main(String[] args) {
-    int runs = args.length > 0 ? Integer.parseInt(args[0]) : 160;
+    int runs = args.length > 0 ? Integer.parseInt(args[0]) : 100;
     int first = args.length > 1 ? Integer.parseInt(args[1]) : 1;
     for (run = first; run < first + runs; run++) {
       calls = 0;
