@@ -317,6 +317,12 @@ public final class PenRoomPromises {
     due("limits", x.about(5), 2);
     due("an empty tape", x.rules(), 0);
     due("limits", x.about(5), 0);
+    String sixty = "rule pay when not (" + times(59, "urgent or ") + "urgent) : 1 law;";
+    PenRoom y = new PenRoom();
+    for (int i = 0; i < 10; i++) due("each text has its own tests", load(y, sixty), 1);
+    y.person(0);
+    y.paper(2, 1, 0, 0, false);
+    due("a rule", y.of(0, 0), 0);
   }
 
   /** Whether the first rule, with this when, is the one for a paper (two slots) and not the second (one). */
@@ -383,6 +389,8 @@ public final class PenRoomPromises {
     fault(1, "@ruleorder : 1 law;");
     fault(2, "@x #");
     fault(1, "@# x");
+    fault(2, "rule @z : 1 law;");
+    fault(2, "rule pay when sum > @a : 1 law;");
   }
 
   private static void faultPlaces() {
@@ -392,6 +400,10 @@ public final class PenRoomPromises {
     fault(2, "rule @");
     fault(2, "rule  \n @");
     fault(2, "rule @law : 1 law;");
+    fault(2, "rule @clerk : 1 law;");
+    fault(2, "rule @month : 1 law;");
+    fault(2, "rule pay : 1 @trip;");
+    fault(2, "limit @month 5;");
     fault(2, "rule pay@");
     fault(2, "rule pay @1 law;");
     fault(2, "rule pay when @: 1 law;");
@@ -455,6 +467,28 @@ public final class PenRoomPromises {
     fault(1, "rule pay when " + times(8, "(") + "@#");
     fault(2, "rule pay when " + times(8, "not ") + "@");
     fault(0, "rule pay when " + times(4, "(((((((urgent))))))) or ") + times(7, "not ") + "urgent : 1 law;");
+  }
+
+  /** What was cut off, or stands beyond a full tape, is not read. */
+  private static void faultAtTheEnd() {
+    PenRoom x = new PenRoom();
+    String[] ends = {"rule pay : 1 law", "limit law day 5", "limit law day ", "rule pay : 1 law;"};
+    for (String text : ends) {
+      for (String more : new String[] {"s", "5", ";", "#"}) {
+        feed(x, text + more);
+        x.cut(text.length());
+        boolean whole = text.endsWith(";");
+        due("rules() of " + text, x.rules(), whole ? 1 : -1);
+        due("fault(0) of " + text, x.fault(0), whole ? 0 : 2);
+        due("fault(1) of " + text, x.fault(1), whole ? -1 : text.length());
+      }
+    }
+    fault(2, "limit law day " + times(985, " ") + "5@");
+    fault(2, times(990, " ") + "limit law @");
+    fault(2, times(995, " ") + "@limiq");
+    fault(2, "rule pay : 1 law" + times(984, "\n") + "@");
+    fault(1, times(999, " ") + "@#");
+    fault(0, times(983, " ") + "rule pay : 1 law;");
   }
 
   private static void faultAsked() {
@@ -713,6 +747,28 @@ public final class PenRoomPromises {
     due("without a rule", x.of(4, 0), 2);
   }
 
+  /** The lowest person and the lowest role are as good as others. */
+  private static void lowestPerson() {
+    PenRoom x = room("rule bill : 1 clerk; limit clerk day 70;", CLERK, 0);
+    x.paper(0, 70, 1, 0, false);
+    due("holders", x.holders(0), 1);
+    due("way", x.way(0), 1);
+    due("hand", x.wayOf(0, 0), 0);
+    due("name", x.wayOf(0, 1), 0);
+    due("greatest", x.greatest(0, 1, false, 1, 1), 70);
+    yes("sign", x.sign(0, 0, 0, 0));
+    due("signed", x.signed(0, 0, 0, false), 70);
+    x.paper(0, 1, 1, 0, false);
+    no("beyond the limit", x.sign(1, 0, 0, 0));
+    due("holders", x.holders(1), 0);
+    x.later(1);
+    x.away(0, 1, 1);
+    no("away", x.sign(1, 0, 0, 0));
+    due("greatest", x.greatest(0, 1, false, 1, 3), -2);
+    x.later(1);
+    yes("sign", x.sign(1, 0, 0, 0));
+  }
+
   private static void limitBelowSigned() {
     PenRoom x = room("rule bill : 1 head; limit head day 70;", 0, HEAD);
     x.paper(0, 70, 0, 0, false);
@@ -825,6 +881,7 @@ public final class PenRoomPromises {
     due("role 8", x.signed(1, 8, 0, true), -1);
     due("role -1", x.signed(1, -1, 0, true), -1);
     due("role 7", x.signed(1, 7, 0, true), 0);
+    due("role 0", x.signed(1, 0, 0, true), 0);
     due("day -1", x.signed(1, 4, -1, true), -1);
     due("day -1", x.signed(1, 4, -1, false), -1);
   }
@@ -936,6 +993,7 @@ public final class PenRoomPromises {
     due("hand", x.wayOf(0, 0), 1);
     due("way", x.way(1), 1);
     due("the latest has it not", x.wayOf(1, 0), -1);
+    due("nor its name", x.wayOf(1, 1), -1);
     due("hand", x.wayOf(0, 0), 1);
   }
 
@@ -1026,6 +1084,15 @@ public final class PenRoomPromises {
     due("at the rule", x.greatest(2, 0, false, 0, 4), 400);
     x.later(1);
     due("not joined any more", x.greatest(2, 0, false, 0, 4), -2);
+    PenRoom y = room("rule pay when sum < 700 : 1 clerk; rule pay when sum < 701 : 1 head;", 0, CLERK, HEAD);
+    due("below a sum", y.greatest(2, 0, false, 0, 2), 699);
+    due("below a sum", y.greatest(2, 0, false, 0, 4), 700);
+    y.paper(2, 699, 0, 0, false);
+    due("joined below a sum", y.greatest(2, 0, false, 0, 2), 0);
+    due("joined below a sum", y.greatest(2, 0, false, 0, 4), 1);
+    y.paper(2, 1, 0, 0, false);
+    due("none left", y.greatest(2, 0, false, 0, 2), -2);
+    due("0 left", y.greatest(2, 0, false, 0, 4), 0);
   }
 
   private static void greatestTries() {
@@ -1075,12 +1142,12 @@ public final class PenRoomPromises {
       case 9: feeding(); break;
       case 10: cutting(); break;
       case 11: rulesStand(); rulesHold(); break;
-      case 12: faultTokens(); faultPlaces(); faultNumbers(); faultAsked(); break;
+      case 12: faultTokens(); faultPlaces(); faultNumbers(); faultAtTheEnd(); faultAsked(); break;
       case 13: span(); break;
       case 14: paper(); ruleStays(); break;
       case 15: of(); break;
       case 16: slot(); break;
-      case 17: sign(); signOthers(); limits(); limitsByName(); limitBelowSigned(); break;
+      case 17: sign(); signOthers(); limits(); limitsByName(); lowestPerson(); limitBelowSigned(); break;
       case 18: back(); break;
       case 19: withdraw(); break;
       case 20: signed(); break;
