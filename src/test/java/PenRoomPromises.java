@@ -1,79 +1,7 @@
 /** One part for each promise of the document: ordinary calls, the edges it names, and wrong calls. */
-public final class PenRoomPromises {
-  private static int wrong = 0;
-  private static int calls = 0;
-  private static int promise = 0;
-
-  private static final int CLERK = 1, HEAD = 2, CHIEF = 4, MONEY = 8, LAW = 16;
-  private static final int LOWEST = Integer.MIN_VALUE, HIGHEST = Integer.MAX_VALUE;
-
-  private static void due(String what, long got, long want) {
-    calls++;
-    if (got != want) {
-      wrong++;
-      System.out.println("promise " + promise + ": " + what + " answered " + got + ", due is " + want);
-    }
-  }
-
-  private static void yes(String what, boolean got) { due(what, got ? 1 : 0, 1); }
-  private static void no(String what, boolean got) { due(what, got ? 1 : 0, 0); }
-
-  /** Feeds a text, padded with blanks that are cut off again. */
-  private static void feed(PenRoom x, String text) {
-    int before = x.about(7);
-    for (int i = 0; i < text.length(); i += 20) {
-      int[] v = new int[5];
-      for (int k = 0; k < 20; k++) v[k / 4] = v[k / 4] << 8 | (i + k < text.length() ? text.charAt(i + k) : ' ');
-      due("feed", x.feed(v[0], v[1], v[2], v[3], v[4]), before + i + 20);
-    }
-    due("cut", x.cut(before + text.length()), before + text.length());
-  }
-
-  private static int load(PenRoom x, String text) {
-    feed(x, text);
-    return x.rules();
-  }
-
-  private static PenRoom room(String text, int... roles) {
-    PenRoom x = new PenRoom();
-    load(x, text);
-    due("fault(0) of " + text, x.fault(0), 0);
-    for (int i = 0; i < roles.length; i++) due("person", x.person(roles[i]), i);
-    return x;
-  }
-
-  private static String times(int n, String s) {
-    StringBuilder all = new StringBuilder();
-    for (int i = 0; i < n; i++) all.append(s);
-    return all.toString();
-  }
-
-  /** The place is where the text has a mark, which is taken out; without one there is no fault. */
-  private static void fault(int number, String marked) {
-    int place = marked.indexOf('@');
-    String text = marked.replace("@", "");
-    PenRoom x = new PenRoom();
-    load(x, "rule bill : 1 law;");
-    int rules = load(x, text);
-    due("fault(0) of " + marked, x.fault(0), number);
-    due("fault(1) of " + marked, x.fault(1), place);
-    if (number != 0) {
-      due("rules() of " + marked, rules, -1);
-      due("rules that stay", x.about(4), 1);
-    }
-    due("bytes behind rules()", x.about(7), 0);
-  }
-
-  private static void good(int rules, String text) {
-    PenRoom x = new PenRoom();
-    due("rules() of " + text, load(x, text), rules);
-    due("fault(0) of " + text, x.fault(0), 0);
-    due("fault(1) of " + text, x.fault(1), -1);
-    due("about(4)", x.about(4), rules);
-  }
-
+public final class PenRoomPromises extends Cases {
   private static void newObject() {
-    PenRoom x = new PenRoom();
+    Desk x = new Desk();
     for (int what = 0; what <= 7; what++) due("about(" + what + ")", x.about(what), 0);
     due("fault(0)", x.fault(0), 0);
     due("fault(1)", x.fault(1), -1);
@@ -90,7 +18,7 @@ public final class PenRoomPromises {
   }
 
   private static void person() {
-    PenRoom x = new PenRoom();
+    Desk x = new Desk();
     due("person(-1)", x.person(-1), -1);
     due("person(256)", x.person(256), -1);
     due("person(lowest)", x.person(LOWEST), -1);
@@ -101,7 +29,7 @@ public final class PenRoomPromises {
   }
 
   private static void roles() {
-    PenRoom x = room("rule pay : 1 head;", 0, CLERK);
+    Desk x = room("rule pay : 1 head;", 0, CLERK);
     x.paper(2, 5, 0, 0, false);
     no("sign without the role", x.sign(0, 0, 1, 1));
     no("roles of nobody", x.roles(2, HEAD));
@@ -120,7 +48,7 @@ public final class PenRoomPromises {
   }
 
   private static void away() {
-    PenRoom x = room("", 0, 0);
+    Desk x = room("", 0, 0);
     no("nobody", x.away(2, 0, 0));
     no("nobody", x.away(-1, 0, 0));
     no("from -1", x.away(0, -1, 5));
@@ -144,7 +72,7 @@ public final class PenRoomPromises {
   }
 
   private static void deputy() {
-    PenRoom x = room("", 0, 0, 0);
+    Desk x = room("", 0, 0, 0);
     due("nobody", x.deputy(3, 0, 0, 0, 0), -1);
     due("by nobody", x.deputy(0, 3, 0, 0, 0), -1);
     due("nobody", x.deputy(-1, 0, 0, 0, 0), -1);
@@ -172,7 +100,7 @@ public final class PenRoomPromises {
   }
 
   private static void end() {
-    PenRoom x = room("", 0, 0);
+    Desk x = room("", 0, 0);
     x.away(0, 0, 9);
     no("none such", x.end(0));
     no("none such", x.end(-1));
@@ -189,7 +117,7 @@ public final class PenRoomPromises {
   }
 
   private static void acts() {
-    PenRoom x = room("", 0, 0, 0, 0, 0);
+    Desk x = room("", 0, 0, 0, 0, 0);
     due("not away", x.acts(2, 1000000, 0), 4);
     due("nobody", x.acts(5, 0, 0), -1);
     due("nobody", x.acts(-1, 0, 0), -1);
@@ -218,7 +146,7 @@ public final class PenRoomPromises {
   }
 
   private static void actsFar() {
-    PenRoom x = new PenRoom();
+    Desk x = new Desk();
     for (int i = 0; i < 14; i++) x.person(0);
     for (int i = 0; i < 13; i++) {
       x.away(i, 0, 0);
@@ -231,7 +159,7 @@ public final class PenRoomPromises {
   }
 
   private static void later() {
-    PenRoom x = new PenRoom();
+    Desk x = new Desk();
     due("later(0)", x.later(0), 0);
     due("later(-1)", x.later(-1), -1);
     due("later(1001)", x.later(1001), -1);
@@ -247,7 +175,7 @@ public final class PenRoomPromises {
   }
 
   private static void feeding() {
-    PenRoom x = new PenRoom();
+    Desk x = new Desk();
     for (int i = 1; i <= 49; i++) due("feed", x.feed(0, 0, 0, 0, 0), i * 20);
     due("cut", x.cut(979), 979);
     due("feed", x.feed(0, 0, 0, 0, 0), 999);
@@ -258,7 +186,7 @@ public final class PenRoomPromises {
     due("feed", x.feed(0, 0, 0, 0, 0), 1000);
     due("beyond", x.feed(0, 0, 0, 0, 0), -1);
     due("bytes", x.about(7), 1000);
-    PenRoom y = new PenRoom();
+    Desk y = new Desk();
     // "rule", " pay", ":1 h", "ead;", four blanks: the highest byte of each number comes first
     due("feed", y.feed(0x72756c65, 0x20706179, 0x3a312068, 0x6561643b, 0x20202020), 20);
     due("rules", y.rules(), 1);
@@ -273,7 +201,7 @@ public final class PenRoomPromises {
   }
 
   private static void cutting() {
-    PenRoom x = new PenRoom();
+    Desk x = new Desk();
     due("cut(0)", x.cut(0), 0);
     due("cut(1)", x.cut(1), -1);
     due("cut(-1)", x.cut(-1), -1);
@@ -306,7 +234,7 @@ public final class PenRoomPromises {
     good(1, "rule pay when " + times(7, "(") + "urgent" + times(7, ")") + ":1 law;");
     good(1, "rule pay when " + times(7, "not ") + "urgent:1 law;");
     good(1, "rule pay when " + times(3, "not(") + "not urgent or (sum<5)" + times(3, ")") + ":1 law;");
-    PenRoom x = new PenRoom();
+    Desk x = new Desk();
     due("rules", load(x, "rule pay:1 law; limit law day 5; rule bill:1 head;"), 2);
     due("limits", x.about(5), 1);
     due("a fault", load(x, "limit head day 5; limit clerk day 6; x"), -1);
@@ -318,7 +246,7 @@ public final class PenRoomPromises {
     due("an empty tape", x.rules(), 0);
     due("limits", x.about(5), 0);
     String sixty = "rule pay when not (" + times(59, "urgent or ") + "urgent) : 1 law;";
-    PenRoom y = new PenRoom();
+    Desk y = new Desk();
     for (int i = 0; i < 10; i++) due("each text has its own tests", load(y, sixty), 1);
     y.person(0);
     y.paper(2, 1, 0, 0, false);
@@ -327,7 +255,7 @@ public final class PenRoomPromises {
 
   /** Whether the first rule, with this when, is the one for a paper (two slots) and not the second (one). */
   private static void when(String e, int sum, int place, boolean urgent, boolean want) {
-    PenRoom x = room("rule pay when " + e + " : 2 law; rule pay : 1 law;", 0);
+    Desk x = room("rule pay when " + e + " : 2 law; rule pay : 1 law;", 0);
     x.paper(2, sum, 0, place, urgent);
     due(e + " with " + sum + " " + place + " " + urgent, x.of(0, 2), want ? 2 : 1);
   }
@@ -352,7 +280,7 @@ public final class PenRoomPromises {
     when("not (urgent and place = 1)", 0, 0, true, true);
     when("urgent and place = 1 and sum < 3", 3, 1, true, false);
     when("urgent or place = 1 or sum < 3", 2, 0, false, true);
-    PenRoom x = room("rule bill:1 law; rule pay when urgent:2 law; rule pay when sum<50:3 law; rule pay when sum<50:1 law;", 0);
+    Desk x = room("rule bill:1 law; rule pay when urgent:2 law; rule pay when sum<50:3 law; rule pay when sum<50:1 law;", 0);
     x.paper(2, 10, 0, 0, true);
     due("the first that holds", x.of(0, 2), 2);
     x.paper(2, 10, 0, 1, false);
@@ -471,7 +399,7 @@ public final class PenRoomPromises {
 
   /** What was cut off, or stands beyond a full tape, is not read. */
   private static void faultAtTheEnd() {
-    PenRoom x = new PenRoom();
+    Desk x = new Desk();
     String[] ends = {"rule pay : 1 law", "limit law day 5", "limit law day ", "rule pay : 1 law;"};
     for (String text : ends) {
       for (String more : new String[] {"s", "5", ";", "#"}) {
@@ -492,7 +420,7 @@ public final class PenRoomPromises {
   }
 
   private static void faultAsked() {
-    PenRoom x = new PenRoom();
+    Desk x = new Desk();
     load(x, "rule pay : 1 law; x");
     due("fault(0)", x.fault(0), 2);
     due("fault(1)", x.fault(1), 18);
@@ -506,7 +434,7 @@ public final class PenRoomPromises {
   }
 
   private static void span() {
-    PenRoom x = room("rule pay : 1 law;", 0, 0);
+    Desk x = room("rule pay : 1 law;", 0, 0);
     no("span(-1)", x.span(-1));
     no("span(31)", x.span(31));
     x.paper(2, 100, 0, 0, false);
@@ -527,7 +455,7 @@ public final class PenRoomPromises {
   }
 
   private static void paper() {
-    PenRoom x = room("rule pay when sum > 100 : 2 law; rule pay : 1 law;", 0, 0);
+    Desk x = room("rule pay when sum > 100 : 2 law; rule pay : 1 law;", 0, 0);
     due("kind -1", x.paper(-1, 0, 0, 0, false), -1);
     due("kind 4", x.paper(4, 0, 0, 0, false), -1);
     due("sum -1", x.paper(2, -1, 0, 0, false), -1);
@@ -559,7 +487,7 @@ public final class PenRoomPromises {
   }
 
   private static void ruleStays() {
-    PenRoom x = room("rule pay : 2 law then 1 head; limit law day 100;", 0, LAW, LAW, HEAD);
+    Desk x = room("rule pay : 2 law then 1 head; limit law day 100;", 0, LAW, LAW, HEAD);
     x.paper(2, 60, 0, 0, false);
     load(x, "rule pay : 1 clerk; limit law day 59;");
     due("slots stay", x.of(0, 2), 3);
@@ -576,7 +504,7 @@ public final class PenRoomPromises {
   }
 
   private static void of() {
-    PenRoom x = room("rule pay : 1 law and 1 head then 1 chief;", 0, LAW, HEAD, CHIEF);
+    Desk x = room("rule pay : 1 law and 1 head then 1 chief;", 0, LAW, HEAD, CHIEF);
     x.later(7);
     x.paper(2, 9, 0, 0, false);
     int[] fresh = {0, 9, 3, 0, 0, 7};
@@ -606,7 +534,7 @@ public final class PenRoomPromises {
   }
 
   private static void slot() {
-    PenRoom x = room("rule pay : 2 law and 1 head then 1 owner;", 0, LAW, LAW, HEAD);
+    Desk x = room("rule pay : 2 law and 1 head then 1 owner;", 0, LAW, LAW, HEAD);
     x.paper(2, 9, 0, 0, false);
     int[] roles = {4, 4, 1, 7};
     int[] steps = {0, 0, 0, 1};
@@ -633,7 +561,7 @@ public final class PenRoomPromises {
   }
 
   private static void sign() {
-    PenRoom x = room("rule pay : 2 law then 1 head;", LAW | HEAD, LAW | HEAD, LAW | HEAD, HEAD, LAW);
+    Desk x = room("rule pay : 2 law then 1 head;", LAW | HEAD, LAW | HEAD, LAW | HEAD, HEAD, LAW);
     x.paper(2, 50, 0, 0, false);
     no("no paper", x.sign(1, 0, 1, 1));
     no("no paper", x.sign(-1, 0, 1, 1));
@@ -676,7 +604,7 @@ public final class PenRoomPromises {
   }
 
   private static void signOthers() {
-    PenRoom x = room("rule pay : 2 law;", 0, LAW, LAW, 0, LAW);
+    Desk x = room("rule pay : 2 law;", 0, LAW, LAW, 0, LAW);
     x.paper(2, 50, 0, 0, false);
     x.away(1, 0, 0);
     x.deputy(1, 3, 0, 0, 50);
@@ -698,7 +626,7 @@ public final class PenRoomPromises {
   }
 
   private static void limits() {
-    PenRoom x = room("rule pay : 1 law; limit law day 100 month 250;", 0, LAW, LAW);
+    Desk x = room("rule pay : 1 law; limit law day 100 month 250;", 0, LAW, LAW);
     x.later(29);
     x.paper(2, 60, 0, 0, false);
     x.paper(2, 40, 0, 1, false);
@@ -728,7 +656,7 @@ public final class PenRoomPromises {
   }
 
   private static void limitsByName() {
-    PenRoom x = room("rule pay : 1 law; rule bill : 1 head; limit law day 100; limit head day 70;", 0, LAW | HEAD, LAW, 0);
+    Desk x = room("rule pay : 1 law; rule bill : 1 head; limit law day 100; limit head day 70;", 0, LAW | HEAD, LAW, 0);
     x.away(1, 0, 5);
     x.deputy(1, 2, 0, 5, 1000);
     x.paper(2, 80, 0, 0, false);
@@ -749,7 +677,7 @@ public final class PenRoomPromises {
 
   /** The lowest person and the lowest role are as good as others. */
   private static void lowestPerson() {
-    PenRoom x = room("rule bill : 1 clerk; limit clerk day 70;", CLERK, 0);
+    Desk x = room("rule bill : 1 clerk; limit clerk day 70;", CLERK, 0);
     x.paper(0, 70, 1, 0, false);
     due("holders", x.holders(0), 1);
     due("way", x.way(0), 1);
@@ -770,7 +698,7 @@ public final class PenRoomPromises {
   }
 
   private static void limitBelowSigned() {
-    PenRoom x = room("rule bill : 1 head; limit head day 70;", 0, HEAD);
+    Desk x = room("rule bill : 1 head; limit head day 70;", 0, HEAD);
     x.paper(0, 70, 0, 0, false);
     yes("70", x.sign(0, 0, 1, 1));
     x.paper(0, 0, 0, 1, false);
@@ -784,7 +712,7 @@ public final class PenRoomPromises {
   }
 
   private static void back() {
-    PenRoom x = room("rule pay when sum > 100 : 2 law; rule pay when sum > 20 : 1 head then 1 law;", 0, LAW, LAW, HEAD);
+    Desk x = room("rule pay when sum > 100 : 2 law; rule pay when sum > 20 : 1 head then 1 law;", 0, LAW, LAW, HEAD);
     x.span(2);
     x.paper(2, 50, 0, 0, false);
     x.later(1);
@@ -823,7 +751,7 @@ public final class PenRoomPromises {
   }
 
   private static void withdraw() {
-    PenRoom x = room("rule pay : 2 law; limit law day 50;", 0, LAW, LAW);
+    Desk x = room("rule pay : 2 law; limit law day 50;", 0, LAW, LAW);
     no("no paper", x.withdraw(0));
     no("no paper", x.withdraw(-1));
     x.paper(2, 50, 0, 0, false);
@@ -850,7 +778,7 @@ public final class PenRoomPromises {
   }
 
   private static void signed() {
-    PenRoom x = room("rule pay : 1 law; rule bill : 1 head;", 0, LAW | HEAD);
+    Desk x = room("rule pay : 1 law; rule bill : 1 head;", 0, LAW | HEAD);
     due("nothing yet", x.signed(1, 4, 0, false), 0);
     for (int i = 0; i < 20; i++) {
       x.paper(2, 1000000, 0, 0, false);
@@ -887,7 +815,7 @@ public final class PenRoomPromises {
   }
 
   private static void way() {
-    PenRoom x = room("rule pay : 1 law and 1 head then 1 law;", LAW, LAW | HEAD, LAW, LAW | HEAD, LAW);
+    Desk x = room("rule pay : 1 law and 1 head then 1 law;", LAW, LAW | HEAD, LAW, LAW | HEAD, LAW);
     due("no paper", x.way(0), -1);
     due("no paper", x.way(-1), -1);
     x.paper(2, 10, 0, 0, false);
@@ -923,7 +851,7 @@ public final class PenRoomPromises {
 
   /** A deputy who is the only hand for one slot must not be spent on an earlier one. */
   private static void wayHands() {
-    PenRoom x = room("rule pay : 1 law then 1 head;", 0, LAW, HEAD, 0, 0);
+    Desk x = room("rule pay : 1 law then 1 head;", 0, LAW, HEAD, 0, 0);
     x.away(1, 0, 9);
     x.away(2, 0, 9);
     x.deputy(1, 3, 0, 9, 100);
@@ -941,8 +869,8 @@ public final class PenRoomPromises {
     due("beyond the deputies' sum", x.way(2), -2);
   }
 
-  private static PenRoom crowd(String rule, int[] roles, int away, int by) {
-    PenRoom x = room(rule, roles);
+  private static Desk crowd(String rule, int[] roles, int away, int by) {
+    Desk x = room(rule, roles);
     if (away >= 0) {
       x.away(away, 0, 9);
       x.deputy(away, by, 0, 9, 1000000);
@@ -958,18 +886,18 @@ public final class PenRoomPromises {
   private static final String RULE_NONE = "rule pay : 1 chief and 1 head and 3 chief then 3 clerk;";
 
   private static void wayTries() {
-    PenRoom x = crowd(RULE_AT_LAST, AT_LAST_TRY, 4, 6);
+    Desk x = crowd(RULE_AT_LAST, AT_LAST_TRY, 4, 6);
     x.paper(2, 1, 0, 0, false);
     due("found by the 100,000th try", x.way(0), 7);
     due("hand", x.wayOf(6, 0), 1);
-    PenRoom y = crowd(RULE_TOO_MANY, ONE_TOO_MANY, 5, 12);
+    Desk y = crowd(RULE_TOO_MANY, ONE_TOO_MANY, 5, 12);
     y.paper(2, 1, 0, 0, false);
     due("a 100,001st try would find it", y.way(0), -3);
     due("no way is told", y.wayOf(0, 0), -1);
-    PenRoom z = crowd(RULE_NONE, NONE_AT_LAST, -1, -1);
+    Desk z = crowd(RULE_NONE, NONE_AT_LAST, -1, -1);
     z.paper(2, 1, 0, 0, false);
     due("sought to its end in 100,000 tries", z.way(0), -2);
-    PenRoom u = crowd("rule pay : 3 clerk and 3 clerk and 1 clerk then 1 head;",
+    Desk u = crowd("rule pay : 3 clerk and 3 clerk and 1 clerk then 1 head;",
         new int[] {0, 1, 1, 1, 1, 1, 1, 1, 1, 1, 1, 1, 1, 1}, -1, -1);
     u.paper(2, 1, 0, 0, false);
     due("far too many", u.way(0), -3);
@@ -977,7 +905,7 @@ public final class PenRoomPromises {
   }
 
   private static void wayOf() {
-    PenRoom x = room("rule pay : 1 law; rule bill : 2 law;", 0, LAW, LAW);
+    Desk x = room("rule pay : 1 law; rule bill : 2 law;", 0, LAW, LAW);
     x.paper(0, 1, 0, 0, false);
     x.paper(2, 1, 0, 0, false);
     due("way", x.way(0), 2);
@@ -998,7 +926,7 @@ public final class PenRoomPromises {
   }
 
   private static void holders() {
-    PenRoom x = room("rule pay : 1 law and 1 head then 1 chief; limit head day 50;", LAW | HEAD | CHIEF, LAW, HEAD, CHIEF, LAW | HEAD, 0);
+    Desk x = room("rule pay : 1 law and 1 head then 1 chief; limit head day 50;", LAW | HEAD | CHIEF, LAW, HEAD, CHIEF, LAW | HEAD, 0);
     due("no paper", x.holders(0), -1);
     due("no paper", x.holders(-1), -1);
     x.paper(2, 50, 0, 0, false);
@@ -1027,7 +955,7 @@ public final class PenRoomPromises {
   }
 
   private static void greatest() {
-    PenRoom x = room("rule pay when sum > 5000 : 1 chief; rule pay when sum < 100 : 1 clerk; rule pay : 1 law and 1 head; "
+    Desk x = room("rule pay when sum > 5000 : 1 chief; rule pay when sum < 100 : 1 clerk; rule pay : 1 law and 1 head; "
         + "rule bill when urgent and place = 3 : 1 law; limit law day 3000; limit clerk month 80;", 0, CLERK, LAW, HEAD, LAW | HEAD);
     due("law by the limit", x.greatest(2, 0, false, 0, 31), 3000);
     due("by another maker", x.greatest(2, 0, false, 2, 31), 3000);
@@ -1058,7 +986,7 @@ public final class PenRoomPromises {
   }
 
   private static void greatestJoined() {
-    PenRoom x = room("rule pay when sum > 1000 : 1 chief; rule pay when not sum < 700 : 1 clerk;", 0, CLERK, 0, CHIEF);
+    Desk x = room("rule pay when sum > 1000 : 1 chief; rule pay when not sum < 700 : 1 clerk;", 0, CLERK, 0, CHIEF);
     x.span(1);
     due("alone", x.greatest(2, 0, false, 0, 2), 1000);
     x.paper(2, 300, 0, 0, false);
@@ -1084,7 +1012,7 @@ public final class PenRoomPromises {
     due("at the rule", x.greatest(2, 0, false, 0, 4), 400);
     x.later(1);
     due("not joined any more", x.greatest(2, 0, false, 0, 4), -2);
-    PenRoom y = room("rule pay when sum < 700 : 1 clerk; rule pay when sum < 701 : 1 head;", 0, CLERK, HEAD);
+    Desk y = room("rule pay when sum < 700 : 1 clerk; rule pay when sum < 701 : 1 head;", 0, CLERK, HEAD);
     due("below a sum", y.greatest(2, 0, false, 0, 2), 699);
     due("below a sum", y.greatest(2, 0, false, 0, 4), 700);
     y.paper(2, 699, 0, 0, false);
@@ -1103,7 +1031,7 @@ public final class PenRoomPromises {
     int[] more = java.util.Arrays.copyOf(NONE_AT_LAST, 11);
     due("one more who can't do", crowd(RULE_NONE, more, -1, -1).greatest(2, 0, false, 0, 1023), -3);
     // far too many above 500, a clerk alone below
-    PenRoom x = crowd("rule pay when sum > 500 : 3 clerk and 3 clerk and 1 clerk then 1 head; rule pay : 1 clerk;",
+    Desk x = crowd("rule pay when sum > 500 : 3 clerk and 3 clerk and 1 clerk then 1 head; rule pay : 1 clerk;",
         new int[] {0, 1, 1, 1, 1, 1, 1, 1, 1, 1, 1, 1, 1, 1}, -1, -1);
     due("not sought to its end", x.greatest(2, 0, false, 0, 16383), -3);
     due("few hands", x.greatest(2, 0, false, 0, 31), 500);
@@ -1113,7 +1041,7 @@ public final class PenRoomPromises {
   }
 
   private static void about() {
-    PenRoom x = room("rule pay : 1 law; rule pay : 2 law; limit law day 5; limit head day 5; limit clerk day 5;", 0, 0, 0, 0);
+    Desk x = room("rule pay : 1 law; rule pay : 2 law; limit law day 5; limit head day 5; limit clerk day 5;", 0, 0, 0, 0);
     x.later(3);
     for (int i = 0; i < 5; i++) x.away(0, 0, 0);
     for (int i = 0; i < 6; i++) x.deputy(0, 1, 0, 0, 0);
@@ -1129,7 +1057,7 @@ public final class PenRoomPromises {
   }
 
   private static void part(int number) {
-    promise = number;
+    sentence("Promise " + number);
     switch (number) {
       case 1: newObject(); break;
       case 2: person(); break;
@@ -1161,7 +1089,6 @@ public final class PenRoomPromises {
 
   public static void main(String[] args) {
     for (int number = 1; number <= 25; number++) part(number);
-    System.out.println(wrong == 0 ? "all " + calls + " answers are as due" : wrong + " answers are not as due");
-    if (wrong != 0) System.exit(1);
+    finish();
   }
 }
