@@ -447,6 +447,25 @@ public final class PenRoomBoundsOfPapers extends Cases {
     yes(y.sign(3, 0, 1, 1));
   }
 
+  private static void limitsOfAllSlots() {
+    sentence("Terms 3: what was signed, of all PAPERS: of any SLOT, in front of which one is not signed, too");
+    Desk x = room("rule pay : 3 law; limit law day 50;", 0, LAW, LAW, LAW);
+    is(x.paper(PAY, 30, 0, 0, false), 0);
+    is(x.paper(PAY, 21, 0, 1, false), 1);
+    is(x.paper(PAY, 20, 0, 2, false), 2);
+    yes(x.sign(0, 2, 1, 1));
+    no(x.sign(1, 0, 1, 1));
+    is(x.holders(1), 4 + 8);
+    is(x.way(1), -2);
+    yes(x.sign(2, 1, 1, 1));
+    is(x.signed(1, 4, 0, false), 50);
+    is(x.greatest(PAY, 3, false, 0, 15), 0);
+    is(load(x, "limit law month 50;"), 0);
+    no(x.sign(1, 0, 1, 1));
+    is(load(x, "limit law month 71;"), 0);
+    yes(x.sign(1, 0, 1, 1));
+  }
+
   private static void limitsOfWhom() {
     sentence("Terms 3: what was signed in that NAME, whoever held the pen, in that ROLE, of all PAPERS");
     Desk x = room("rule pay : 1 law; rule bill : 1 head; limit law day 100; limit head day 70;", 0, LAW | HEAD, LAW);
@@ -665,6 +684,7 @@ public final class PenRoomBoundsOfPapers extends Cases {
     onceOnAPaper();
     dayLimit();
     monthLimit();
+    limitsOfAllSlots();
     limitsOfWhom();
     largestLimits();
     signedCounts();

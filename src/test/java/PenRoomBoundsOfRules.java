@@ -179,6 +179,9 @@ public final class PenRoomBoundsOfRules extends Cases {
     fault(1, RULE + times(974, " ") + "@limiqlimq");
     fault(2, times(985, " ") + "limit law day 5@");
     fault(2, times(994, " ") + "limit @");
+    fault(2, times(996, " ") + "@limi");
+    fault(2, times(999, " ") + "@r");
+    fault(2, "limit law day 1; rule pay : 1" + times(969, " ") + "@la");
   }
 
   private static void eachByte() {
@@ -484,7 +487,12 @@ public final class PenRoomBoundsOfRules extends Cases {
       "rule pay : 1 law @rule", "rule pay : 1 law and @and", "rule pay : 1 law and @law", "rule pay : 1 law then @;",
       "rule pay : 1 law then @then", "rule pay : 1 law;@;", "rule pay : 1 law; @1", "limit @limit", "limit @1", "limit @day",
       "limit law day @day", "limit law day @;", "limit law day 5 @5", "limit law day 5 @rule", "limit law day 5 @and",
-      "limit law day 5 month 5 @day", "limit law month 5 @law", "limit law day 5;@;"};
+      "limit law day 5 month 5 @day", "limit law month 5 @law", "limit law day 5;@;",
+      "@xyz", "rule @xyz", "rule pay @xyz", "rule pay when @xyz", "rule pay when not @xyz", "rule pay when sum @xyz",
+      "rule pay when sum < @xyz : 1 law;", "rule pay when sum > @xyz : 1 law;", "rule pay when place = @xyz : 1 law;",
+      "rule pay : @xyz law;", "rule pay : 1 @xyz;", "rule pay : 1 law @xyz", "rule pay : 1 law and @xyz law;",
+      "rule pay : 1 law then @xyz law;", "limit @xyz day 5;", "limit law @xyz", "limit law day @xyz;", "limit law month @xyz;",
+      "limit law day 5 @xyz", "limit law day 5 month @xyz;"};
     for (String text : marked) fault(2, text);
   }
 
@@ -550,6 +558,21 @@ public final class PenRoomBoundsOfRules extends Cases {
     when(many, 0, 0, true, true);
     when(many, 0, 0, false, false);
     when(times(26, "not not not not not not urgent and ") + "not urgent", 0, 0, true, false);
+  }
+
+  /** Texts of many nots, one behind the other; the last one must hold as the first one did. */
+  private static void manyTexts() {
+    sentence("Promise 11: the TAPE is the RULES, however much the texts before it held");
+    String many = "rule pay when " + times(26, "not not not not not not urgent and ") + "urgent : 2 law; rule pay : 1 law;";
+    Desk x = new Desk();
+    x.person(0);
+    for (int i = 0; i < 7; i++) {
+      is(load(x, many), 2);
+      is(x.paper(PAY, 1, 0, 0, true), 2 * i);
+      is(x.paper(PAY, 1, 0, 0, false), 2 * i + 1);
+      is(x.of(2 * i, 2), 2);
+      is(x.of(2 * i + 1, 2), 1);
+    }
   }
 
   private static void ruleOfAPaper() {
@@ -623,6 +646,7 @@ public final class PenRoomBoundsOfRules extends Cases {
     limitsInAText();
     tokensThatCannotStand();
     testsHold();
+    manyTexts();
     ruleOfAPaper();
     faultAsked();
     finish();

@@ -7,27 +7,27 @@ public final class PenRoomBoundsOfWays extends Cases {
   private static final int[] FOUND_AT_100000 = {0, 7, 1, 3, 2, 0, 2, 2, 1, 2, 2};
   private static final int[] FOUND_AT_100001 = {0, 5, 0, 1, 2, 3, 0, 3, 0, 0, 3, 1, 0, 0};
   private static final int[] NONE_IN_100000 = {0, 2, 6, 0, 3, 5, 7, 0, 4, 5};
+  private static final int[] PAIRS_BEHIND_100000 = {0, 1, 2, 4, 0, 6, 1, 4, 4, 0, 6, 0, 2};
   private static final String NEEDS_AT_100000 = "3 clerk and 3 head and 1 chief";
   private static final String NEEDS_AT_100001 = "2 clerk and 1 head and 3 clerk then 1 chief";
   private static final String NEEDS_IN_100000 = "1 chief and 1 head and 3 chief then 3 clerk";
+  private static final String NEEDS_BEHIND_100000 = "2 clerk and 3 chief and 2 chief then 1 chief";
 
   /** Thirteen clerks and no head: far more than 100,000 tries, and no way. */
   private static final int[] CLERKS = {0, 1, 1, 1, 1, 1, 1, 1, 1, 1, 1, 1, 1, 1};
   private static final String FAR_TOO_MANY = "3 clerk and 3 clerk and 1 clerk then 1 head";
 
-  private static Desk foundAtTheLast(String text) {
-    Desk x = room(text, FOUND_AT_100000);
-    yes(x.away(4, 0, 9));
-    is(x.deputy(4, 6, 0, 9, 1000000), 0);
+  /** A desk on which one person is away and has one deputy. */
+  private static Desk deputized(String needs, int[] roles, int away, int by) {
+    Desk x = room("rule pay : " + needs + ";", roles);
+    yes(x.away(away, 0, 9));
+    is(x.deputy(away, by, 0, 9, 1000000), 0);
     return x;
   }
 
-  private static Desk foundOneLater(String text) {
-    Desk x = room(text, FOUND_AT_100001);
-    yes(x.away(5, 0, 9));
-    is(x.deputy(5, 12, 0, 9, 1000000), 0);
-    return x;
-  }
+  private static Desk foundAtTheLast() { return deputized(NEEDS_AT_100000, FOUND_AT_100000, 4, 6); }
+  private static Desk foundOneLater() { return deputized(NEEDS_AT_100001, FOUND_AT_100001, 5, 12); }
+  private static Desk pairsLeft() { return deputized(NEEDS_BEHIND_100000, PAIRS_BEHIND_100000, 7, 12); }
 
   private static void ways() {
     sentence("Promise 21: of the WAY of a PAPER how many SLOTS it signs");
@@ -106,6 +106,35 @@ public final class PenRoomBoundsOfWays extends Cases {
     is(y.way(1), -2);
   }
 
+  /** Person 1 is away and has two deputies, so hands there are enough; but the one name can't stand twice. */
+  private static void namesOnce() {
+    sentence("Terms 4: such that all could be signed, one behind the other: no NAME twice, nor the MAKER's");
+    Desk x = room("rule pay : 2 law;", LAW, LAW, 0, 0);
+    yes(x.away(0, 0, 0));
+    yes(x.away(1, 0, 0));
+    for (int by = 2; by < 4; by++) for (int person = 0; person < 2; person++) x.deputy(person, by, 0, 0, 50);
+    is(x.paper(PAY, 50, 2, 0, false), 0);
+    is(x.paper(PAY, 50, 0, 0, false), 1);
+    is(x.way(0), -2);
+    is(x.way(1), -2);
+    is(x.greatest(PAY, 1, false, 0, 15), -2);
+    is(x.holders(0), 8);
+    is(x.holders(1), 4 + 8);
+    yes(x.sign(1, 1, 3, 1));
+    is(x.way(1), -2);
+    sentence("Terms 4: HOLDERS: no HAND for the MAKER, or for a NAME of another SLOT of it");
+    is(x.holders(1), 0);
+    is(x.person(LAW), 4);
+    is(x.holders(1), 16);
+    is(x.way(1), 1);
+    is(x.wayOf(0, 1), 4);
+    is(x.greatest(PAY, 1, false, 0, 31), 50);
+    is(x.paper(PAY, 50, 4, 1, false), 2);
+    is(x.way(2), 2);
+    for (int s = 0; s < 2; s++) is(x.wayOf(s, 1), s);
+    for (int s = 0; s < 2; s++) is(x.wayOf(s, 0), 2 + s);
+  }
+
   private static void limitsOnAWay() {
     sentence("Terms 4: such that all could be signed today: LIMITS on both sides");
     Desk x = room("rule pay : 1 law then 1 law; limit law day 50;", 0, LAW, LAW);
@@ -126,7 +155,7 @@ public final class PenRoomBoundsOfWays extends Cases {
 
   private static void tries() {
     sentence("Terms 4: each pair that is looked at is a TRY, 100,000 at most");
-    Desk x = foundAtTheLast("rule pay : " + NEEDS_AT_100000 + ";");
+    Desk x = foundAtTheLast();
     is(x.paper(PAY, 1, 0, 0, false), 0);
     is(x.way(0), 7);
     is(x.wayOf(6, 0), 1);
@@ -134,13 +163,16 @@ public final class PenRoomBoundsOfWays extends Cases {
     is(z.paper(PAY, 1, 0, 0, false), 0);
     is(z.way(0), -2);
     sentence("Promise 21: -3 if a 100,001st TRY would be needed");
-    Desk y = foundOneLater("rule pay : " + NEEDS_AT_100001 + ";");
+    Desk y = foundOneLater();
     is(y.paper(PAY, 1, 0, 0, false), 0);
     is(y.way(0), -3);
     none(y.wayOf(0, 0));
     Desk u = room("rule pay : " + NEEDS_IN_100000 + ";", Arrays.copyOf(NONE_IN_100000, 11));
     is(u.paper(PAY, 1, 0, 0, false), 0);
     is(u.way(0), -3);
+    Desk w = pairsLeft();
+    is(w.paper(PAY, 1, 0, 0, false), 0);
+    is(w.way(0), -3);
     Desk v = room("rule pay : " + FAR_TOO_MANY + ";", CLERKS);
     is(v.paper(PAY, 1, 0, 0, false), 0);
     is(v.way(0), -3);
@@ -342,6 +374,10 @@ public final class PenRoomBoundsOfWays extends Cases {
     is(x.greatest(PAY, 0, false, 0, 2), 999999);
     is(load(x, "rule pay : 1 law; limit law day 1000090;"), 1);
     is(x.greatest(PAY, 0, false, 0, 2), 1000000);
+    Desk y = room("rule pay : 1 clerk; limit clerk day 70;", CLERK, 0);
+    is(y.greatest(PAY, 0, false, 1, 3), 70);
+    is(y.greatest(PAY, 0, false, 1, 1), 70);
+    is(y.greatest(PAY, 0, false, 0, 3), -2);
   }
 
   private static void greatestJoined() {
@@ -390,13 +426,14 @@ public final class PenRoomBoundsOfWays extends Cases {
 
   private static void greatestTries() {
     sentence("Terms 4: GREATEST: each sum sought by its own TRIES, 100,000 at most");
-    is(foundAtTheLast("rule pay : " + NEEDS_AT_100000 + ";").greatest(PAY, 0, false, 0, 2047), 1000000);
+    is(foundAtTheLast().greatest(PAY, 0, false, 0, 2047), 1000000);
     is(room("rule pay : " + NEEDS_IN_100000 + ";", NONE_IN_100000).greatest(PAY, 0, false, 0, 1023), -2);
     Desk x = room("rule pay when sum > 500 : " + NEEDS_IN_100000 + "; rule pay when sum > 300 : " + NEEDS_IN_100000
         + "; rule pay : 1 chief; limit chief day 900;", NONE_IN_100000);
     is(x.greatest(PAY, 0, false, 0, 1023), 300);
     sentence("Promise 24: -3 if the first that is not without a WAY would need a 100,001st TRY");
-    is(foundOneLater("rule pay : " + NEEDS_AT_100001 + ";").greatest(PAY, 0, false, 0, 16383), -3);
+    is(foundOneLater().greatest(PAY, 0, false, 0, 16383), -3);
+    is(pairsLeft().greatest(PAY, 0, false, 0, 8191), -3);
     Desk y = room("rule pay when sum > 500 : " + FAR_TOO_MANY + "; rule pay : 1 clerk;", CLERKS);
     is(y.greatest(PAY, 0, false, 0, 16383), -3);
     is(y.greatest(PAY, 0, false, 0, 31), 500);
@@ -414,6 +451,7 @@ public final class PenRoomBoundsOfWays extends Cases {
   public static void main(String[] args) {
     ways();
     order();
+    namesOnce();
     limitsOnAWay();
     tries();
     fewPeople();
