@@ -350,6 +350,18 @@ public final class PenRoomBoundsOfWays extends Cases {
     is(y.greatest(ORDER, 0, false, 0, 4), 1000000);
   }
 
+  private static void greatestByFullRules() {
+    sentence("Terms 4: GREATEST by as many rules and tests as a text may hold, the last of them too");
+    Desk x = room(times(19, "rule pay when sum>9:1 head;") + "rule pay when not sum>8:1 law;", 0, LAW);
+    is(x.about(4), 20);
+    is(x.greatest(PAY, 0, false, 0, 2), 8);
+    is(x.greatest(BILL, 0, false, 0, 2), -2);
+    Desk y = room("rule pay when " + times(59, "sum>99 or ") + "sum>7:1 head;" + times(18, "rule bill:1 law;") + "rule pay:1 law;", 0, LAW);
+    is(y.about(4), 20);
+    is(y.greatest(PAY, 0, false, 0, 2), 7);
+    is(y.greatest(BILL, 0, false, 0, 2), 1000000);
+  }
+
   private static void greatestByLimits() {
     sentence("Terms 4: GREATEST by what the day's and the month's LIMITS leave");
     Desk x = room("rule pay : 1 law; limit law day 100 month 150;", 0, LAW, LAW);
@@ -459,6 +471,7 @@ public final class PenRoomBoundsOfWays extends Cases {
     holders();
     greatestAsked();
     greatestSums();
+    greatestByFullRules();
     greatestByLimits();
     greatestJoined();
     greatestSet();
